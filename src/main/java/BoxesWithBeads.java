@@ -1758,7 +1758,6 @@ public final class BoxesWithBeads {
             return false;
         }
 
-        @Override
         int pick(Chest chest, int[] weights, int many, int all) {
             int d = depth;
             if (d < 0 || d >= chosen.length || all <= 0) {
