@@ -2,7 +2,10 @@ import java.util.ArrayList;
 import java.util.List;
 import java.util.NoSuchElementException;
 
-/** What the tests share: texts handed over, rows read, and answers that are held against those that are due. */
+/**
+ * What the tests share: texts handed over, rows read, and answers that are held against those that are due. No test
+ * asks one object more than 512 times, for what later calls answer is free.
+ */
 final class Due {
     private static int asked = 0;
     private static int wrong = 0;
@@ -22,12 +25,22 @@ final class Due {
         is(what, got ? 1 : 0, want ? 1 : 0);
     }
 
-    static void same(String what, Object got, Object want) {
+    static void same(String what, List<Long> got, List<Long> want) {
         asked++;
         if (!want.equals(got)) {
             wrong++;
-            System.out.println(what + " answered " + got + ", due is " + want);
+            int at = 0;
+            while (at < got.size() && at < want.size() && got.get(at).equals(want.get(at))) {
+                at++;
+            }
+            System.out.println(what + " answered " + from(got, at) + ", due is " + from(want, at));
         }
+    }
+
+    /** Long lists are told from where they differ. */
+    private static String from(List<Long> all, int at) {
+        int end = Math.min(all.size(), at + 9);
+        return all.size() <= 20 ? all.toString() : "[.. number " + at + ": " + all.subList(Math.min(at, end), end) + " ..]";
     }
 
     static void row(String what, BoxesWithBeads x, long... want) {
@@ -93,14 +106,14 @@ final class Due {
         return x;
     }
 
-    /** All that can be asked without a change: counts, the ROW, and every BOX of the positions told. */
-    static List<Long> picture(BoxesWithBeads x, int positions) {
+    /** The counts, the ROW, and the beads of the first MOVES of the positions told: some of what must not change. */
+    static List<Long> picture(BoxesWithBeads x, int moves, int... positions) {
         List<Long> all = rowOf(x);
         for (int what = 0; what <= 16; what++) {
             all.add((long) x.count(what));
         }
-        for (int p = 0; p < positions; p++) {
-            for (int m = 0; m < 9; m++) {
+        for (int p : positions) {
+            for (int m = 0; m < moves; m++) {
                 all.add((long) x.beads(p, m));
             }
         }

@@ -13,7 +13,7 @@ import java.util.TreeSet;
  * written for itself, with maps and copies and no thrift: both must answer alike, and have alike rows and beads.
  */
 public final class PlainModelTest {
-    private static final int RUNS = 60;
+    private static final int RUNS = 100;
 
     public static void main(String[] args) {
         int runs = args.length > 0 ? Integer.parseInt(args[0]) : RUNS;
@@ -45,7 +45,8 @@ public final class PlainModelTest {
         }
 
         String go() {
-            while (left > 0) {
+            // The dearest step asks for some 60 calls.
+            while (left > 90) {
                 String call = step();
                 if (call != null) {
                     StringBuilder all = new StringBuilder();
@@ -207,15 +208,17 @@ public final class PlainModelTest {
 
         private String row() {
             List<Long> got = new ArrayList<>();
-            for (int i = 0; i < x.count(16); i++) {
+            int many = x.count(16);
+            left -= 1 + many;
+            for (int i = 0; i < many; i++) {
                 got.add(x.row(i));
             }
             return got.equals(y.row) ? null : calls.get(calls.size() - 1) + ": row " + got + ", due is " + y.row;
         }
 
-        /** Looks at all that can be seen; of the calls counted as one. */
+        /** Looks at all counts and at some beads. */
         private String everything() {
-            left--;
+            left -= 19;
             calls.add("(everything)");
             for (int what = 0; what <= 16; what++) {
                 if (x.count(what) != y.count(what)) {
@@ -223,12 +226,12 @@ public final class PlainModelTest {
                 }
             }
             List<Integer> own = y.ownPositions();
-            for (int i = 0; i < own.size(); i += own.size() > 300 ? 1 + by.nextInt(60) : 1) {
-                int p = own.get(i);
-                for (int m = 0; m < 9; m++) {
-                    if (x.beads(p, m) != y.beads(p, m)) {
-                        return "beads(" + p + ", " + m + ") answered " + x.beads(p, m) + ", due is " + y.beads(p, m);
-                    }
+            for (int i = 0; i < 40 && !own.isEmpty(); i++) {
+                int p = own.get(by.nextInt(own.size()));
+                int m = by.nextInt(9);
+                left--;
+                if (x.beads(p, m) != y.beads(p, m)) {
+                    return "beads(" + p + ", " + m + ") answered " + x.beads(p, m) + ", due is " + y.beads(p, m);
                 }
             }
             int seed = y.seed(5);
