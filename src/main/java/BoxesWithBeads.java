@@ -444,7 +444,9 @@ public final class BoxesWithBeads {
         int bestOrder = NONE;
         for (int order = 0; order < 27; order++) {
             if (isOrder(order, many)) {
-                long behind = taughtBy(foes, order, many, n, tested);
+                teachBy(foes, order, many, n);
+                forecast.look(spare, tested, freshBeads);
+                long behind = 2L * forecast.of(WON) + forecast.of(DRAWN);
                 if (behind > most) {
                     most = behind;
                     bestOrder = order;
@@ -612,7 +614,7 @@ public final class BoxesWithBeads {
         return s < fresh.length ? fresh[s] : 0;
     }
 
-    private long taughtBy(int foes, int order, int many, int n, Foe tested) {
+    private void teachBy(int foes, int order, int many, int n) {
         spare.copyFrom(chest);
         for (int i = 0; i < many; i++) {
             Foe met = foeAt(nthBit(foes, atOrder(order, i)));
@@ -620,8 +622,6 @@ public final class BoxesWithBeads {
                 contest.meet(spare, met, ruleNow(), freshBeads);
             }
         }
-        forecast.look(spare, tested, freshBeads);
-        return 2L * forecast.of(WON) + forecast.of(DRAWN);
     }
 
     /** An order is a number of three digits to the base 3, so that counting up is by numbers. */
@@ -858,24 +858,23 @@ public final class BoxesWithBeads {
         }
 
         int stateOf(int p) {
-            return p >= 0 && p < size && p < states.length ? states[p] : NONE;
+            return p >= 0 && p < states.length ? states[p] : NONE;
         }
 
         boolean goesOn(int p) {
-            int now = stateOf(p);
-            return now == 0 || now == 1;
+            return p >= 0 && p < states.length && (states[p] == 0 || states[p] == 1);
         }
 
         int legalAt(int p) {
-            return goesOn(p) ? legal[p] : 0;
+            return p >= 0 && p < legal.length ? legal[p] : 0;
         }
 
         int bestAt(int p) {
-            return goesOn(p) ? best[p] : 0;
+            return p >= 0 && p < best.length ? best[p] : 0;
         }
 
         int worthOf(int p) {
-            return goesOn(p) ? worth[p] : NONE;
+            return p >= 0 && p < worth.length ? worth[p] : NONE;
         }
 
         int stonesOf(int p) {
@@ -886,10 +885,10 @@ public final class BoxesWithBeads {
         }
 
         int next(int p, int m) {
-            int mover = stateOf(p);
-            if (mover < 0 || mover > 1 || m < 0 || m >= PLACES) {
+            if (p < 0 || p >= states.length || m < 0 || m >= PLACES) {
                 return NONE;
             }
+            int mover = states[p];
             if (game.heap > 0) {
                 return 2 * (p / 2 - m - 1) + 1 - mover;
             }
@@ -898,7 +897,10 @@ public final class BoxesWithBeads {
 
         /** What a POSITION is worth to a SIDE: 2 WON, 1 DRAWN, 0 LOST. */
         int worthTo(int p, int side) {
-            int now = stateOf(p);
+            if (p < 0 || p >= states.length) {
+                return DRAWN;
+            }
+            int now = states[p];
             if (now == 0 || now == 1) {
                 return now == side ? worth[p] : WON - worth[p];
             }
@@ -933,6 +935,8 @@ public final class BoxesWithBeads {
             laid = true;
             size = game.heap > 0 ? 2 * game.heap + 2 : POWERS[boardPlaces()];
             Arrays.fill(states, NONE);
+            Arrays.fill(legal, 0);
+            Arrays.fill(best, 0);
             drawLines();
             int first = Math.max(0, Math.min(start(), POSITIONS - 1));
             states[first] = 0;
@@ -1061,7 +1065,8 @@ public final class BoxesWithBeads {
         int chestSide;
         private final int[] boxOf = new int[POSITIONS];
         private final int[] turnOf = new int[POSITIONS];
-        private final int[] slotOf = new int[POSITIONS];
+        // Twice the number of the BOX among those of its SIDE, and the SIDE that moves.
+        private final int[] slots = new int[POSITIONS];
         private final int[] still = new int[POSITIONS];
         private final int[] kinds = new int[POSITIONS];
         private final int[] led = new int[TURNS * PLACES];
@@ -1081,13 +1086,13 @@ public final class BoxesWithBeads {
         }
 
         int boxOf(int p) {
-            return table.goesOn(p) ? boxOf[p] : NONE;
+            return p >= 0 && p < boxOf.length ? boxOf[p] : NONE;
         }
 
         /** The number of a POSITION's BOX among THE CHEST's, by POSITION; NONE if it is not THE CHEST's. */
         int slotOf(int p) {
-            int box = boxOf(p);
-            return box >= 0 && box < slotOf.length && table.stateOf(p) == chestSide ? slotOf[box] : NONE;
+            int slot = p >= 0 && p < slots.length ? slots[p] : NONE;
+            return slot >= 0 && (slot & 1) == chestSide ? slot >> 1 : NONE;
         }
 
         int boxCount() {
@@ -1100,7 +1105,7 @@ public final class BoxesWithBeads {
 
         /** The MOVES that have beads in a POSITION's BOX, as they are there. */
         int kindsAt(int p) {
-            int box = boxOf(p);
+            int box = p >= 0 && p < boxOf.length ? boxOf[p] : NONE;
             return box >= 0 && box < kinds.length ? kinds[box] : 0;
         }
 
@@ -1115,7 +1120,8 @@ public final class BoxesWithBeads {
 
         /** The MOVE of this POSITION that a MOVE of its BOX is led back to. */
         int moveBack(int p, int kind) {
-            return boxOf(p) < 0 || kind < 0 || kind >= PLACES ? NONE : back[turnOf[p] * PLACES + kind];
+            boolean known = p >= 0 && p < boxOf.length && boxOf[p] >= 0 && kind >= 0 && kind < PLACES;
+            return known ? back[turnOf[p] * PLACES + kind] : NONE;
         }
 
         private int leastLike(int box, int m) {
@@ -1136,6 +1142,7 @@ public final class BoxesWithBeads {
             laid = true;
             drawTurns();
             Arrays.fill(boxOf, NONE);
+            Arrays.fill(slots, NONE);
             Arrays.fill(boxCounts, 0);
             for (int p = 0; p < table.size(); p++) {
                 if (table.goesOn(p) && boxOf[p] < 0) {
@@ -1189,7 +1196,6 @@ public final class BoxesWithBeads {
             }
             boxAt[mover * MOST_BOXES + slot] = box;
             boxCounts[mover]++;
-            slotOf[box] = slot;
             still[box] = 0;
             readStones(box);
             for (int t = 0; t < turns && t < INVERSE.length; t++) {
@@ -1199,6 +1205,7 @@ public final class BoxesWithBeads {
                 }
                 if (boxOf[p] < 0) {
                     boxOf[p] = box;
+                    slots[p] = 2 * slot + mover;
                     turnOf[p] = INVERSE[t];
                 }
                 turnOf[p] = Math.min(turnOf[p], INVERSE[t]);
@@ -1792,6 +1799,7 @@ public final class BoxesWithBeads {
         private final int[] odds = new int[3 * POSITIONS];
         private final int[] seenIn = new int[POSITIONS];
         private final int[] shownIn = new int[MOST_BOXES];
+        private final long[] sums = new long[3];
         private int looks;
         private int shown;
         private Chest chest;
@@ -1820,12 +1828,12 @@ public final class BoxesWithBeads {
         }
 
         private static void measure(Forecast f, int p, int depth) {
-            if (depth > DEEPEST || p < 0 || p >= POSITIONS || f.seenIn[p] == f.looks) {
+            if (depth > DEEPEST || p < 0 || p >= POSITIONS || f.seenIn[p] == f.looks || f.foe == null) {
                 return;
             }
             f.seenIn[p] = f.looks;
             boolean own = f.table.stateOf(p) == f.likes.chestSide;
-            int moves = own ? f.ownMoves(p) : f.foesMoves(p);
+            int moves = own ? f.ownMoves(p) : f.foe.movesAt(f.table, p);
             for (int m = 0; m < PLACES; m++) {
                 if (holds(moves, m)) {
                     measure(f, f.table.next(p, m), depth + 1);
@@ -1838,10 +1846,6 @@ public final class BoxesWithBeads {
             } else {
                 f.setFoes(p);
             }
-        }
-
-        private int foesMoves(int p) {
-            return foe != null && table.goesOn(p) ? foe.movesAt(table, p) : 0;
         }
 
         private int ownMoves(int p) {
@@ -1892,27 +1896,42 @@ public final class BoxesWithBeads {
         }
 
         private void setFoes(int p) {
-            for (int e = LOST; e <= WON; e++) {
-                long sum = 0;
-                for (int i = 0; foe != null && i < foe.parts && i < foe.shares.length; i++) {
-                    int n = foe.parts > 1 ? foe.shares[i] : 1;
-                    sum += n * (foe.isFool(i) ? foolsOdds(p, e) : oddsOf(table.next(p, foe.moveOf(i, table, p)), e));
+            Arrays.fill(sums, 0);
+            boolean several = foe != null && foe.parts > 1;
+            for (int i = 0; foe != null && i < foe.parts && i < foe.shares.length; i++) {
+                int times = several ? foe.shares[i] : 1;
+                if (foe.isFool(i)) {
+                    addFool(p, times);
+                } else {
+                    addMove(p, foe.moveOf(i, table, p), times);
                 }
-                int all = foe != null && foe.parts > 1 ? foe.allShares : 1;
-                odds[3 * p + e] = all > 0 ? (int) (sum / all) : 0;
+            }
+            int all = several ? foe.allShares : 1;
+            for (int e = LOST; e <= WON; e++) {
+                odds[3 * p + e] = all > 0 ? (int) (sums[e] / all) : 0;
             }
         }
 
-        private long foolsOdds(int p, int e) {
+        private void addMove(int p, int m, int times) {
+            int q = table.next(p, m);
+            for (int e = LOST; e <= WON; e++) {
+                sums[e] += (long) times * oddsOf(q, e);
+            }
+        }
+
+        /** A fool's ODDS are cut before its SHARE is taken. */
+        private void addFool(int p, int times) {
             int legal = table.legalAt(p);
             int many = Integer.bitCount(legal);
-            long sum = 0;
-            for (int m = 0; m < PLACES; m++) {
-                if (holds(legal, m)) {
-                    sum += oddsOf(table.next(p, m), e);
+            for (int e = LOST; e <= WON; e++) {
+                long sum = 0;
+                for (int m = 0; m < PLACES; m++) {
+                    if (holds(legal, m)) {
+                        sum += oddsOf(table.next(p, m), e);
+                    }
                 }
+                sums[e] += many > 0 ? times * (sum / many) : 0;
             }
-            return many > 0 ? sum / many : 0;
         }
 
         int countShown(Foe met) {
@@ -1924,13 +1943,13 @@ public final class BoxesWithBeads {
         }
 
         private static void reach(Forecast f, int p, int depth) {
-            if (depth > DEEPEST || p < 0 || p >= POSITIONS || f.seenIn[p] == f.looks) {
+            if (depth > DEEPEST || p < 0 || p >= POSITIONS || f.seenIn[p] == f.looks || f.foe == null) {
                 return;
             }
             f.seenIn[p] = f.looks;
             f.noteShown(f.likes.slotOf(p));
             boolean own = f.table.stateOf(p) == f.likes.chestSide;
-            int moves = own ? f.table.legalAt(p) : f.foesMoves(p);
+            int moves = own ? f.table.legalAt(p) : f.foe.movesAt(f.table, p);
             for (int m = 0; m < PLACES; m++) {
                 if (holds(moves, m)) {
                     reach(f, f.table.next(p, m), depth + 1);
