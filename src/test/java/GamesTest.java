@@ -380,8 +380,11 @@ public final class GamesTest {
         x.pay(0);
         Due.is("24: none WON", x.run(0, 5), 0);
         Due.row("24: two DRAWN, three RESIGNED", x, 2, 3, 3);
-        Due.is("24: LOST are with them", x.count(9), 3);
-        Due.is("24: RESIGNED", x.count(10), 3);
+        x.put(0, 0, 1);
+        Due.is("24: none WON once more", x.run(0, 4), 0);
+        Due.row("24: of this run alone", x, 1, 3, 3);
+        Due.is("24: LOST are with them", x.count(9), 6);
+        Due.is("24: RESIGNED", x.count(10), 6);
         x = even("n2/1", 1, "f1");
         x.run(0, 4);
         Due.row("24: LOST, not RESIGNED", x, 0, 4, 0);

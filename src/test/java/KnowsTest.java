@@ -32,6 +32,14 @@ public final class KnowsTest {
         x.out(6, 1, 4);
         Due.is("28: learnt", x.knows(), 4);
         Due.row("28: learnt", x, 1, 0);
+        x.out(14, 2, 1);
+        x.put(14, 0, 1);
+        Due.is("28: one bead, not of the best", x.knows(), 3);
+        Due.row("28: one bead, not of the best", x, 1, 1);
+        x.put(14, 2, 1);
+        x.put(14, 0, 98);
+        Due.is("28: one bead of the best and many others", x.knows(), 3);
+        Due.row("28: one bead of the best and many others", x, 2, 0);
         x.side(1);
         Due.is("28: emptied", x.knows(), 0);
         Due.row("28: emptied", x, 0, 0);

@@ -62,6 +62,8 @@ public final class SetUpTest {
         Due.is("9: four gone", x.open(32), 4);
         Due.is("9: opened ones stay", x.fresh(2, 1), 9);
         Due.is("9: opened ones stay", x.beads(36, 0), 9);
+        Due.is("9: a heap of one", Due.game(x, "n1/1"), 0);
+        Due.is("9: none gone", x.open(2), 7);
         Due.is("9: a board", Due.game(x, "g3x1k3"), 0);
         Due.is("9: no stones", x.open(0), 14);
         Due.is("9: two stones, one place of each kind", x.open(1 + 2 * 3), 1);

@@ -6,6 +6,7 @@ public final class TeachingTest {
 
     public static void main(String[] args) {
         teachOfOne();
+        teachOfEqual();
         teachIsPlaying();
         teachOfThree();
         teachRefused();
@@ -38,10 +39,31 @@ public final class TeachingTest {
         Due.row("31: LOST", x, 0, 0);
     }
 
+    private static void teachOfEqual() {
+        BoxesWithBeads x = Due.with("n1/1", "f1", "m1", "t1", "f2");
+        Due.is("31: three alike", x.teach(14, 2, 0), 3);
+        Due.row("31: of equal ones the first by numbers", x, 1, 2, 3, 2 * ALL);
+        // Teaching makes it worse here, yet all orders are of teaching.
+        BoxesWithBeads y = Due.with("n2/2", "f1", "m1");
+        Due.rule(y, "w-9");
+        y.pay(0);
+        y.seed(7);
+        y.odds(0);
+        Due.is("31: WON by half ahead of it", y.row(0), ALL / 2);
+        Due.is("31: one foe", y.teach(2, 50, 0), 1);
+        Due.row("31: it is worse", y, 1, 0);
+        Due.is("31: two foes", y.teach(3, 50, 0), 2);
+        Due.row("31: it is worse", y, 0, 1, 0);
+    }
+
     /** What each order leads to, told by playing it on an object of its own. */
     private static long byPlaying(int n, int test, int... order) {
+        return byPlayingFrom(99, n, test, order);
+    }
+
+    private static long byPlayingFrom(int seed, int n, int test, int... order) {
         BoxesWithBeads x = taught(3, "w+2;l-1", "f1", "m1;f2", "r1:1");
-        x.seed(99);
+        x.seed(seed);
         for (int foe : order) {
             for (int i = 0; i < n; i++) {
                 x.play(foe);
@@ -79,20 +101,27 @@ public final class TeachingTest {
 
     private static void teachOfThree() {
         int[][] orders = {{0, 1, 2}, {0, 2, 1}, {1, 0, 2}, {1, 2, 0}, {2, 0, 1}, {2, 1, 0}};
+        boolean[] seen = new boolean[orders.length];
         BoxesWithBeads x = taught(3, "w+2;l-1", "f1", "m1;f2", "r1:1");
-        x.seed(99);
-        for (int n = 1; n <= 21; n += 5) {
+        for (int seed = 1; seed <= 40; seed++) {
+            int n = 1 + seed % 7;
             long most = -1;
-            int[] best = orders[0];
-            for (int[] order : orders) {
-                long behind = byPlaying(n, 1, order);
+            int best = 0;
+            for (int i = 0; i < orders.length; i++) {
+                long behind = byPlayingFrom(seed, n, 1, orders[i]);
                 if (behind > most) {
                     most = behind;
-                    best = order;
+                    best = i;
                 }
             }
+            seen[best] = true;
+            int[] order = orders[best];
+            x.seed(seed);
             Due.is("31: three foes", x.teach(7, n, 1), 3);
-            Due.row("31: three foes, " + n, x, best[0], best[1], best[2], most);
+            Due.row("31: three foes, " + n, x, order[0], order[1], order[2], most);
+        }
+        for (int i = 0; i < orders.length; i++) {
+            Due.is("31: order " + i + " is best somewhere", seen[i], true);
         }
     }
 

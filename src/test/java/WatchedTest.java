@@ -137,6 +137,14 @@ public final class WatchedTest {
         x.watch(0, 1, 20, 10);
         Due.is("38: alike ahead of one", x.part(), 2);
         Due.row("38: ahead of none", x, 0, 0);
+        // Two of them leave the same up to 8 ahead: 1 and 2 times 1 to 9 meet one of the others.
+        x = ruled("w+1*", "w+2*", "w+2", "w+5", "w+6", "w+7", "w+8", "w+9");
+        Due.is("38: nine ahead", x.part(), 8);
+        Due.row("38: nine ahead", x, 2, 9);
+        // Here 7 and 14 meet none of the others first, and ten ahead are not asked.
+        x = ruled("w+1*", "w+2*", "w+2", "w+5", "w+6", "w+8", "w+9", "w+10");
+        Due.is("38: six ahead", x.part(), 8);
+        Due.row("38: six ahead", x, 2, 6);
         x = ruled("w+1", "w+2", "w+3", "w+4", "w+5", "w+6", "w+7", "w+8");
         Due.is("38: eight", x.part(), 8);
         Due.row("38: eight", x, 2, 0);
