@@ -197,6 +197,10 @@ public final class BeadsTest {
         x.put(2, 0, 2);
         Due.is("22: of one MOVE alone, for there is one", x.count(5), 2);
         Due.is("22: without beads", x.count(4), 0);
+        x.out(6, 1, 4);
+        x.out(6, 0, 3);
+        Due.is("22: one bead is of one MOVE alone", x.count(5), 3);
+        Due.is("22: and not without", x.count(4), 0);
         Due.rule(x, "l-2");
         Due.rule(x, "w+1");
         x.pay(0);

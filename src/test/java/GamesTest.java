@@ -10,6 +10,7 @@ public final class GamesTest {
         playsOfTheOther();
         drawsOfFoes();
         movesLedBack();
+        movesLedByQuarters();
         pays();
         paysByOrder();
         refills();
@@ -190,6 +191,34 @@ public final class GamesTest {
         Due.is("23: as it is", x.row(1), 8);
     }
 
+    /** Two turns of a quarter lead this board to its BOX, and none before them: the first one counts. */
+    private static void movesLedByQuarters() {
+        BoxesWithBeads x = even("g3x3k3", 1, "r08:1");
+        int board = 3 + 2 + 2187 + 13122;
+        Due.is("23: its BOX", x.like(board), 27 + 18 + 243 + 1458);
+        x.open(0);
+        x.out(0, 0, 1);
+        x.out(0, 4, 1);
+        Due.is("23: behind 1 and 0", x.open(5), 7);
+        for (int m = 2; m < 9; m++) {
+            Due.is("23: none of them", x.out(5, m, 1), 0);
+        }
+        x.put(5, 7, 1);
+        Due.is("23: three kinds", x.open(board), 3);
+        Due.is("23: 2 and 6 are like", x.out(board, 2, 1), 0);
+        Due.is("23: 3 and 5 are like", x.out(board, 5, 1), 0);
+        Due.is("23: the middle", x.out(board, 4, 1), 0);
+        x.put(board, 2, 1);
+        x.play(0);
+        Due.is("23: led to 0 by (-y, x), so 6", x.row(4), 6);
+        x.out(board, 6, 1);
+        x.put(board, 5, 1);
+        x.play(0);
+        Due.is("23: led to 1 by (-y, x), so 3", x.row(4), 3);
+        x.side(1);
+        Due.is("23: the row of the first moves", x.row(0) * 1000 + x.row(1) * 100 + x.row(2) * 10 + x.row(3), 1078);
+    }
+
     private static void pays() {
         BoxesWithBeads x = even("n5/1", 3, "r0:1");
         Due.rule(x, "w+2");
@@ -282,6 +311,18 @@ public final class GamesTest {
         x.pay(2);
         x.play(0);
         Due.is("23: the last e counts", x.beads(8, 0), 2);
+        x = even("n1/1m", 1, "f1");
+        Due.is("23: a wrong rule", Due.rule(x, "w+9;d+9;e5;x"), -12);
+        Due.is("23: nothing of it", Due.rule(x, "l-1"), 0);
+        Due.is("23: a wrong rule", Due.rule(x, "l+9*;d+9;w+9;"), -14);
+        Due.is("23: nothing of it", Due.rule(x, "e1"), 1);
+        x.pay(0);
+        x.play(0);
+        Due.is("23: no e", x.beads(2, 0), 0);
+        x.put(2, 0, 1);
+        x.pay(1);
+        x.play(0);
+        Due.is("23: no l", x.beads(2, 0), 1);
         x = even("n3/2m", 1, "r0:1");
         Due.rule(x, "l-1;e2");
         x.pay(0);
