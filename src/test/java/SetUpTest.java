@@ -139,6 +139,8 @@ public final class SetUpTest {
         Due.is("11: was 1", x.pay(0), 1);
         x.play(0);
         Due.is("11: 1 more", x.beads(2, 0), 14);
+        Due.is("11: from the BAG", x.count(1), 9986);
+        Due.is("11: none are SPENT", x.count(2), 0);
         Due.is("11: was 0", x.pay(-1), 0);
         x.play(0);
         Due.is("11: none more", x.beads(2, 0), 14);

@@ -164,6 +164,10 @@ public final class TeachingTest {
         Due.is("32: five games", x.few(0, 5), -2);
         x.pay(2);
         Due.is("32: refilled", x.few(0, 50), 1);
+        BoxesWithBeads y = Due.with("n20/1", "f1");
+        y.side(1);
+        y.sheet(3, 0, 0, 0);
+        Due.is("32: the same for all s, up to 19", y.few(0, 3), 1);
         Due.is("32: no row", x.count(16), 0);
         Due.is("32: nothing played", x.count(6), 0);
         Due.is("32: nothing opened", x.count(3), 0);
