@@ -1,3 +1,4 @@
+import java.math.BigInteger;
 import java.util.ArrayList;
 import java.util.List;
 import java.util.function.Supplier;
@@ -185,6 +186,13 @@ final class Whole {
         }
         r = r < 0 ? r + 4294967296L : r;
         return (int) (r / 65536);
+    }
+
+    /** The seed behind which the first DRAW leaves R so. */
+    static int seedAhead(int r) {
+        BigInteger all = BigInteger.ONE.shiftLeft(32);
+        BigInteger back = BigInteger.valueOf(1103515245L).modInverse(all);
+        return BigInteger.valueOf(r - 12345L).multiply(back).mod(all).intValue();
     }
 
     /** The least seed from 1 on behind which the first DRAWS of so many things each tell just these. */
