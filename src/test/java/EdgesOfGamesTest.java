@@ -230,6 +230,29 @@ public final class EdgesOfGamesTest {
         Due.is("23: all are LOST: the first", x.row(0), 0);
         x.play(1);
         Due.is("23: all are LOST: the first", x.row(0), 0);
+        // Of 5 one is the best to take; two and three are the worst. Of 6 two; of 7 three.
+        int[] best = {0, 1, 2};
+        int[] worst = {1, 0, 0};
+        for (int i = 0; i < 3; i++) {
+            x = even("n" + (5 + i) + "/3", 1, "m1", "t1", "t9;t1", "m9;m1");
+            x.side(1);
+            x.play(0);
+            Due.is("23: the best of " + (5 + i), x.row(0), best[i]);
+            x.play(1);
+            Due.is("23: the worst of " + (5 + i), x.row(0), worst[i]);
+            x.play(2);
+            Due.is("23: the worst of " + (5 + i), x.row(0), worst[i]);
+            x.play(3);
+            Due.is("23: the best of " + (5 + i), x.row(0), best[i]);
+        }
+        // A stone in the middle: the first of the edges is the worst, the corner ahead of it is the best.
+        x = even("g3x3k3", 0, "m1", "t1");
+        x.open(0);
+        x.put(0, 4, 1);
+        x.play(0);
+        Due.row("23: the first corner", x, 4, 0);
+        x.play(1);
+        Due.row("23: the first edge", x, 4, 1);
         x = even("g3x3k1", 1, "m1", "t1");
         x.side(1);
         x.play(0);

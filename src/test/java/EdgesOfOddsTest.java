@@ -22,6 +22,7 @@ public final class EdgesOfOddsTest {
         waysOfFoes();
         waysCut();
         waysOfThe();
+        waysOfManyBoxes();
         waysOfTheBag();
         waysAtTheLimit();
         waysChangeNothing();
@@ -339,6 +340,39 @@ public final class EdgesOfOddsTest {
         Due.is("27: the greatest", x.row(3), 18);
         Due.is("27: the least", x.row(4), 3);
         Due.is("27: nothing is opened", x.count(3), 0);
+    }
+
+    /** All WAYS of one GAME by ones, twos and threes, told by going through them here: SIDE 0, v beads of each MOVE. */
+    private static void walk(long[] sums, boolean own, int left, int v, long chance, int beads) {
+        if (left == 0) {
+            sums[0]++;
+            sums[1] += chance;
+            sums[2] += chance * beads;
+            sums[3] = Math.max(sums[3], beads);
+            sums[4] = Math.min(sums[4], beads);
+            return;
+        }
+        int many = Math.min(3, left);
+        for (int part = 0; part < (own ? many : 3); part++) {
+            // A wish that can't be done is the first of all.
+            int taken = part < many ? part + 1 : 1;
+            walk(sums, !own, left - taken, v, chance / (own ? many : 3), own ? beads + many * v : beads);
+        }
+    }
+
+    /** Many WAYS that come to many BOXES: none leaves anything to the next. */
+    private static void waysOfManyBoxes() {
+        for (int heap = 1; heap <= 9; heap++) {
+            for (int v = 1; v <= 3; v++) {
+                BoxesWithBeads x = even("n" + heap + "/3", v, "r0:1;r1:1;r2:1");
+                long[] sums = {0, 0, 0, 0, 10000};
+                walk(sums, true, heap, v, ALL, 0);
+                Due.is("27: heap of " + heap + ": few enough", sums[0] <= 3000, true);
+                ways("heap of " + heap, x, 0, 1, sums);
+                ways("heap of " + heap + ", once more", x, 0, 1, sums);
+                Due.is("27: nothing is opened", x.count(3), 0);
+            }
+        }
     }
 
     /** The BAG is asked, other than by odds(). */

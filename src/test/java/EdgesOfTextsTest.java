@@ -490,6 +490,23 @@ public final class EdgesOfTextsTest {
         Due.is("6: shows", x.shows(0), y.shows(0));
         Due.is("6: runs", x.run(0, 50), y.run(0, 50));
         Due.is("6: R", Whole.random(x), Whole.random(y));
+        // Nor its SHARES, nor its letters.
+        x = made.get();
+        y = made.get();
+        Due.is("6: refused", Due.foe(x, "r2:9;t9;f9;r2:0"), -15);
+        Due.is("6: the next one", Due.foe(x, "t1;f2"), 0);
+        Due.is("6: alone", Due.foe(y, "t1;f2"), 0);
+        Due.is("6: ODDS", x.odds(0) + y.odds(0), 0);
+        Due.same("6: ODDS", Due.rowOf(x), Due.rowOf(y));
+        Due.is("6: runs", x.run(0, 50), y.run(0, 50));
+        Due.is("6: R", Whole.random(x), Whole.random(y));
+        for (String letter : new String[] {"f", "m", "t", "r0:"}) {
+            x = made.get();
+            Due.is("6: refused", Due.foe(x, letter + "0"), -1 - letter.length());
+            Due.is("6: a SHARE alone", Due.foe(x, "1"), -1);
+            Due.is("6: refused", Due.foe(x, "f1;" + letter + "0"), -4 - letter.length());
+            Due.is("6: a SHARE alone", Due.foe(x, "f1;1"), -4);
+        }
     }
 
     private static void foesTaken() {

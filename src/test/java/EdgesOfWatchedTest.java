@@ -235,6 +235,8 @@ public final class EdgesOfWatchedTest {
         part("three of them", ruled("w+6", "w+6*", "w+12"), 3, 2, 2);
         // Nine ahead alone: each of the others is met by k or 2k on the way.
         part("nine ahead", ruled("w+1*", "w+2*", "w+2", "w+5", "w+6", "w+7", "w+8", "w+9"), 8, 2, 9);
+        // Here it would be ten ahead, which are not asked: 7 at most, of none ahead first.
+        part("not ten ahead", ruled("w+1*", "w+2*", "w+2", "w+6", "w+7", "w+8", "w+9", "w+10"), 7, 2, 0);
     }
 
     private static void partsChangeTheRow() {

@@ -27,7 +27,79 @@ public final class PlainModelTest {
             }
         }
         Due.is("runs that differ", failed, 0);
+        everyPosition();
         Due.close("PlainModelTest");
+    }
+
+    /** All POSITIONS, and some that are none, of all heaps and of all boards of up to six places. */
+    private static void everyPosition() {
+        for (int times = 0; times < 8; times++) {
+            boolean likeness = (times & 1) == 0;
+            int side = times >> 1 & 1;
+            String losing = times < 4 ? "" : "m";
+            for (int heap = 1; heap <= 20; heap++) {
+                for (int takes = 1; takes <= 3; takes++) {
+                    everyPositionOf("n" + heap + "/" + takes + losing, side, likeness, 2 * heap + 3);
+                }
+            }
+            for (int wide = 1; wide <= 3; wide++) {
+                for (int high = 1; high <= 3 && wide * high <= 6; high++) {
+                    for (int k = 1; k <= 3; k++) {
+                        int top = (int) Math.pow(3, wide * high) + 2;
+                        everyPositionOf("g" + wide + "x" + high + "k" + k + losing, side, likeness, top);
+                    }
+                }
+            }
+        }
+    }
+
+    private static void everyPositionOf(String game, int side, boolean likeness, int top) {
+        Plain y = new Plain();
+        y.sign('f' << 24 | '1' << 16 | ';' << 8 | 'r');
+        y.sign('4' << 24 | '2' << 16 | ':' << 8 | '3');
+        y.foe();
+        y.text = game;
+        y.game();
+        y.side(side);
+        y.likeness(likeness);
+        BoxesWithBeads x = null;
+        int left = 0;
+        for (int p = -2; p <= top; p++) {
+            if (left < 40) {
+                x = new BoxesWithBeads();
+                Due.foe(x, "f1;r42:3");
+                Due.game(x, game);
+                x.side(side);
+                x.likeness(likeness);
+                y.likeness(likeness);
+                left = 480;
+                String of = game + ", SIDE " + side + ", LIKENESS " + likeness;
+                Due.is(of + ": boxes()", x.boxes(), y.boxes());
+                Due.is(of + ": shows(0)", x.shows(0), y.shows(0));
+                Due.is(of + ": odds(0)", x.odds(0), y.odds(0));
+                Due.same(of + ": odds(0)", Due.rowOf(x), y.row);
+            }
+            left -= 2 + aroundOne(x, y, p, game + ", POSITION " + p);
+        }
+    }
+
+    /** How many calls were spent besides state() and like(). */
+    private static int aroundOne(BoxesWithBeads x, Plain y, int p, String what) {
+        Due.is(what + ": state()", x.state(p), y.state(p));
+        int box = y.like(p);
+        Due.is(what + ": like()", x.like(p), box);
+        if (box < 0) {
+            return 0;
+        }
+        Due.is(what + ": value()", x.value(p), y.value(p));
+        Due.same(what + ": value()", Due.rowOf(x), y.row);
+        Due.is(what + ": open()", x.open(p), y.open(p));
+        for (int m = -1; m <= 9; m++) {
+            Due.is(what + ": beads() of MOVE " + m, x.beads(p, m), y.beads(p, m));
+        }
+        Due.is(what + ": share()", x.share(p), y.share(p));
+        Due.is(what + ": errs()", x.errs(p), y.errs(p));
+        return 26;
     }
 
     /** One run: at most 512 calls on one object. */

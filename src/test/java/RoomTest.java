@@ -110,8 +110,8 @@ public final class RoomTest {
         BoxesWithBeads x = Due.with("n20/1", "f1");
         Due.rule(x, "w+99*;l-99*;e99");
         x.pay(0);
-        // 8, 5 and 1 calls to here, and one to tell.
-        int calls = CALLS - 20;
+        // 17 calls to here, and 5 behind.
+        int calls = CALLS - 22;
         for (int i = 1; i <= calls; i++) {
             Due.is("all are LOST", x.run(0, 200), 0);
         }
