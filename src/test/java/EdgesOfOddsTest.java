@@ -154,6 +154,17 @@ public final class EdgesOfOddsTest {
         odds("f1;f1;f1", x, 4, ALL / 2, 0, ALL / 2);
         odds("t4;f3;r1:2", x, 5, (4 * ALL + 3 * (ALL / 2)) / 9, 0, (3 * (ALL / 2) + 2 * ALL) / 9);
         odds("f9", x, 6, ALL / 2, 0, ALL / 2);
+        // "these" are in parts already: a fool's ODDS among several are cut ahead of its SHARE.
+        x = even("n3/3", 0, "f9;r2:1");
+        x.side(1);
+        x.fresh(2, 1);
+        x.open(5);
+        x.put(5, 0, 3);
+        x.put(5, 1, 1);
+        long won = (ALL / 4 + ALL) / 3;
+        long lost = (ALL * 3 / 4 + ALL) / 3;
+        odds("f9;r2:1", x, 0, 9 * won / 10, 0, (9 * lost + ALL) / 10);
+        Due.is("26: one less than in one cut", x.row(0), 9 * (ALL / 4 + ALL) / 30 - 1);
     }
 
     /** "unopened BOXES as if opened, the BAG not asked; nothing is opened". */
